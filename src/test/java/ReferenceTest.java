@@ -1,4 +1,5 @@
 import java.util.ArrayList;
+import java.util.Arrays;
 import java.util.HashMap;
 import java.util.HashSet;
 import java.util.List;
@@ -89,7 +90,7 @@ public final class ReferenceTest {
         int a = random.nextInt(7) - 1, b = random.nextInt(7) - 1;
         int i = random.nextInt(12) - 1;
         int rule = random.nextInt(19) - 1, other = random.nextInt(19) - 1;
-        switch (random.nextInt(14)) {
+        switch (random.nextInt(15)) {
             case 0: case 1: {
                 int order = random.nextInt(4) == 0 ? random.nextInt(3400) - 100 : code(ALL_ORDERS.get(random.nextInt(120)));
                 int want = e.size() == 9 ? FULL : isOrder(order) ? e.size() + 1 : BAD;
@@ -120,6 +121,11 @@ public final class ReferenceTest {
             case 12: {
                 boolean same = isRule(rule, 16) && isRule(other, 16) && winners(e, rule) == winners(e, other);
                 due(e, "agree(" + rule + ", " + other + ")", x.agree(rule, other) ? 1 : 0, same ? 1 : 0);
+                break;
+            }
+            case 13: {
+                boolean fine = isRule(rule, 14) && i >= 0 && i < e.size();
+                due(e, "gain(" + rule + ", " + i + ")", x.gain(rule, i), fine ? gain(e, rule, i) : BAD);
                 break;
             }
             default: due(e, "ballots()", x.ballots(), e.size()); break;
@@ -501,35 +507,49 @@ public final class ReferenceTest {
     }
 
     // Any ballot may become any other one at the price of the couples that they order differently; what counts for c
-    // is only how many ballots have it before each other candidate.
+    // is only how many ballots have it before each other candidate: the digits of the index, to a base above them all.
     private static int swaps(List<List<Integer>> e, int c) {
-        Map<List<Integer>, Integer> costs = new HashMap<>();
-        costs.put(List.of(0, 0, 0, 0, 0), 0);
+        int base = e.size() + 1, size = 1;
+        int[] power = new int[5];
+        for (int d = 0; d < 5; d++) {
+            power[d] = size;
+            size *= d == c ? 1 : base;
+        }
+        int[] costs = unreached(size);
+        costs[0] = 0;
         for (List<Integer> ballot : e) {
-            Map<List<Integer>, Integer> next = new HashMap<>();
+            int[] next = unreached(size);
             Map<Integer, Integer> prices = cheapestSetsBehind(ballot, c);
-            for (Map.Entry<List<Integer>, Integer> old : costs.entrySet()) {
-                for (Map.Entry<Integer, Integer> price : prices.entrySet()) {
-                    List<Integer> ahead = new ArrayList<>(old.getKey());
-                    for (int d : members(price.getKey())) {
-                        ahead.set(d, ahead.get(d) + 1);
+            for (Map.Entry<Integer, Integer> price : prices.entrySet()) {
+                int step = 0;
+                for (int d : members(price.getKey())) {
+                    step += power[d];
+                }
+                for (int k = 0; k + step < size; k++) {
+                    if (costs[k] >= 0 && (next[k + step] < 0 || costs[k] + price.getValue() < next[k + step])) {
+                        next[k + step] = costs[k] + price.getValue();
                     }
-                    next.merge(ahead, old.getValue() + price.getValue(), Math::min);
                 }
             }
             costs = next;
         }
         int least = NONE;
-        for (Map.Entry<List<Integer>, Integer> end : costs.entrySet()) {
-            boolean wins = true;
+        for (int k = 0; k < size; k++) {
+            boolean wins = costs[k] >= 0;
             for (int d = 0; d < 5; d++) {
-                wins &= d == c || 2 * end.getKey().get(d) > e.size();
+                wins &= d == c || 2 * (k / power[d] % base) > e.size();
             }
-            if (wins && (least == NONE || end.getValue() < least)) {
-                least = end.getValue();
+            if (wins && (least == NONE || costs[k] < least)) {
+                least = costs[k];
             }
         }
         return least;
+    }
+
+    private static int[] unreached(int size) {
+        int[] costs = new int[size];
+        Arrays.fill(costs, -1);
+        return costs;
     }
 
     private static final Map<Integer, Map<Integer, Integer>> PRICES = new HashMap<>();
