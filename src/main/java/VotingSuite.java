@@ -37,7 +37,9 @@ public final class VotingSuite {
     private static final int NEED_BITS = 3;
     private static final int NEED_MASK = 7;
     private static final int NEED_STATES = 4096;
-    private static final int UNREACHED = 1000000;
+
+    // Greater than every score and every number of exchanges.
+    private static final int ABOVE_ALL = 1000000;
 
     private int count;
     private final int[] orders = new int[MAX_BALLOTS];
@@ -409,7 +411,7 @@ public final class VotingSuite {
     }
 
     private void letOneGo(int rule, int set) {
-        int least = UNREACHED;
+        int least = ABOVE_ALL;
         for (int c = 0; c < CANDIDATES; c++) {
             scoreNow[c] = scoreAmong(rule, c, set);
             if (has(set, c) && scoreNow[c] < least) {
@@ -469,7 +471,8 @@ public final class VotingSuite {
     }
 
     // A couple that can't be kept now can't be kept later either, so the set of kept couples alone tells where an
-    // order of the couples stands. It only grows, so going up the numbers of sets meets each after all it can come from.
+    // order of the couples stands. It only grows, so going up the numbers of sets meets each after all it can come
+    // from.
     private int headsOfKeptCouples() {
         listPairs();
         for (int kept = 0; kept < PAIR_SETS; kept++) {
@@ -556,7 +559,8 @@ public final class VotingSuite {
         return lowers;
     }
 
-    // Of two sets that dominate one lies in the other and so has the smaller number: the first one found is the smallest.
+    // Of two sets that dominate one lies in the other and so has the smaller number: the first one found is the
+    // smallest.
     private int smallestDominatingSet() {
         for (int set = 1; set < ALL; set++) {
             if (dominates(set)) {
@@ -651,13 +655,13 @@ public final class VotingSuite {
             return NONE;
         }
         for (int state = 0; state < NEED_STATES; state++) {
-            swapCost[state] = UNREACHED;
+            swapCost[state] = ABOVE_ALL;
         }
         int start = needsOf(c);
         swapCost[start] = 0;
         for (int i = 0; i < count; i++) {
             for (int state = 0; state <= start; state++) {
-                if (swapCost[state] < UNREACHED) {
+                if (swapCost[state] < ABOVE_ALL) {
                     moveForward(i, c, state);
                 }
             }
