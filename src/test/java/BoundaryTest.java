@@ -18,7 +18,10 @@ public final class BoundaryTest {
     // 1 beats 2 by 7; 0 leads by 1 over both. Whoever casts the last ballot can make 2 beat 0, and so a cycle.
     private static final String[] BREAKABLE = {"4*01234", "3*12034", "20134", "10234"};
 
-    private static String sentence = "";
+    // The whole test takes about a second.
+    private static final int LONGEST_MILLIS = 120000;
+
+    private static volatile String sentence = "";
     private static int sentences = 0;
     private static int wrong = 0;
     private static int checked = 0;
@@ -33,6 +36,7 @@ public final class BoundaryTest {
             BoundaryTest::removals, BoundaryTest::leader, BoundaryTest::gain, BoundaryTest::gainRefused,
             BoundaryTest::agree, BoundaryTest::ballots, BoundaryTest::orderAndLimits, BoundaryTest::language
         };
+        watchForCallsWithoutEnd();
         for (Runnable test : tests) {
             due("the calls throw nothing", throwsNothing(test), true);
         }
@@ -918,6 +922,21 @@ public final class BoundaryTest {
             }
         }
         return all.toString();
+    }
+
+    // A call that doesn't end would hold up .ci/run instead of failing it.
+    private static void watchForCallsWithoutEnd() {
+        Thread watch = new Thread(() -> {
+            try {
+                Thread.sleep(LONGEST_MILLIS);
+            } catch (InterruptedException stopped) {
+                return;
+            }
+            System.out.println("\"" + sentence + "\": a call does not end");
+            Runtime.getRuntime().halt(1);
+        });
+        watch.setDaemon(true);
+        watch.start();
     }
 
     private static boolean throwsNothing(Runnable calls) {
